@@ -399,8 +399,12 @@ public final class SteadyShelf {
 
     private static int hashBy(long name, int key, int bits, boolean fold) {
         int h = key;
-        for (int k = 0; k < MOST_LETTERS && codeAt(name, k) != 0; k++) {
-            h = stirred(h, fold ? codeAt(name, k) | SMALL_LETTER : codeAt(name, k));
+        for (int k = 0; k < MOST_LETTERS; k++) {
+            int code = codeAt(name, k);
+            if (code == 0) {
+                break;
+            }
+            h = stirred(h, fold ? code | SMALL_LETTER : code);
         }
         return h & ((1 << bits) - 1);
     }

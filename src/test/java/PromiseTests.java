@@ -513,6 +513,13 @@ public final class PromiseTests {
         due("tear", 2, () -> x.tear(0));
         due("build", 9, x::build);
         due("nothing is TORN", 0, () -> x.count(4));
+        acts(x, "cut e;cut f;cut g;cut h;cut i;cut j;cut k;cut l;cut m;cut n;cut o;cut p;cut q;cut r");
+        acts(x, "cut s;cut t;cut u");
+        due("four are left", 1, x::build);
+        due("LEVELS", 0, () -> x.count(2));
+        due("the ROOT is a LEAF", 1, () -> x.block(0, 0));
+        due("its ENTRIES", 4, () -> x.block(0, 1));
+        due("no ROWS", IOOBE, () -> x.row(0, 0, 0));
 
         SteadyShelf y = oneHash(0, 80);
         due("eighty", 26, y::build);
@@ -554,6 +561,13 @@ public final class PromiseTests {
         due("1", 1, x::why);
         due("nothing happened", 0, () -> x.count(7));
         due("READERS are as they were", 1, () -> x.reader(1, 0));
+
+        SteadyShelf z = told("put a 1;put A 2");
+        due("fold of the first two", ISE, () -> z.tune(2, 1));
+        due("1", 1, z::why);
+        due("as a text", IAE, () -> acts(z, "fold"));
+        due("cut", 2, () -> cut(z, "A"));
+        due("fold", 0, () -> z.tune(2, 1));
 
         SteadyShelf y = oneHash(0, 81);
         due("81", ISE, () -> y.tune(0, 3));
@@ -862,6 +876,12 @@ public final class PromiseTests {
         SteadyShelf u = told("put a 1;put b 2;put c 3;put d 4;put e 5");
         u.build();
         cut(u, "e");
+        due("the least HASH that is not there", 4, () -> u.shape(8));
+        put(u, "f", 6);
+        due("the next one", 5, () -> u.shape(8));
+        cut(u, "b");
+        due("the least one", 0, () -> u.shape(8));
+        acts(u, "put b 2;cut f");
         due("an empty LEAF", 0, () -> u.shape(3));
         due("the most", 4, () -> u.shape(4));
         due("its place", 0, () -> u.shape(5));
