@@ -483,7 +483,7 @@ public final class SteadyShelf {
         }
     }
 
-    /** The ACTS with their first words, and with what comes behind these. */
+    /** The ACTS with their first words, and with what comes behind these: NAMES, then a number, if most is not NONE. */
     private enum Act {
         PUT("put", 1, 0, MOST_NODE, false),
         CUT("cut", 1, 0, NONE, false),
@@ -541,7 +541,7 @@ public final class SteadyShelf {
         int at = 0;
         int wrongByte = NONE;
         int firstWord = 0;
-        Act act = null;
+        Act act = Act.BUILD;
         long name = NO_NAME;
         long other = NO_NAME;
         int number = 0;
@@ -626,24 +626,25 @@ public final class SteadyShelf {
         boolean readAct() {
             skipBlanks();
             firstWord = at;
-            act = actOf(firstWord, passLetters());
-            if (act == null) {
+            int which = actNumber(firstWord, passLetters());
+            if (which == NONE) {
                 markWrong(firstWord);
                 return false;
             }
+            act = ALL_ACTS[which];
             name = act.nameCount > 0 ? readName() : NO_NAME;
             other = act.nameCount > 1 ? readName() : NO_NAME;
             number = act.takesNumber() ? readNumber(act.least, act.most) : 0;
             return wrongByte == NONE;
         }
 
-        private Act actOf(int begin, int letters) {
+        private int actNumber(int begin, int letters) {
             for (int k = 0; k < ALL_ACTS.length; k++) {
                 if (isWord(ALL_ACTS[k].word, begin, letters)) {
-                    return ALL_ACTS[k];
+                    return k;
                 }
             }
-            return null;
+            return NONE;
         }
 
         private boolean isWord(String word, int begin, int letters) {
