@@ -3,7 +3,7 @@ import java.util.List;
 
 /** What the document says at its edges of put, cut, turn, build, tune, tear and undo. */
 public final class ActSentences {
-    private static final Sentences S = new Sentences(7, 13);
+    private static final Sentences S = Sentences.from(7, 13);
     private static final int SAME = Sentences.SAME;
 
     private ActSentences() {
@@ -267,6 +267,19 @@ public final class ActSentences {
             S.due("LEVELS", 2, x.count(2));
         });
         S.of(7, "right behind it in the one above", ActSentences::splitOfFirstIndex);
+        S.of(7, "If none has: the first LEAF of the WAY is SPLIT", () -> {
+            Shelf x = new Shelf();
+            Prepared.oneHash(x, 0, 12);
+            S.due("the second LEAF is full", 6, x.block(1, 1));
+            S.due("the thirteenth", 1, x.put(Names.twoLetters(0, 1).get(12), 12));
+            S.due("the first LEAF", 3, x.block(2, 1));
+            S.due("the new one behind it", 4, x.block(3, 1));
+            S.due("the last one stays", 6, x.block(1, 1));
+            int[] leaves = {2, 3, 1, -1};
+            for (int k = 0; k < leaves.length; k++) {
+                S.due("leaf " + k, leaves[k], x.leaf(k));
+            }
+        });
         S.of(7, "A new BLOCK is the least one that is free, taken as they come about: the new LEAF behind, then of the"
             + " ROOT, if it was a LEAF, the one in front; the new INDEX behind, then of the ROOT the one in front.", () -> {
             Shelf x = new Shelf();
@@ -547,6 +560,14 @@ public final class ActSentences {
     }
 
     private static void build() {
+        S.of(10, "BUILT: how many BLOCKS are not free then.", () -> {
+            S.due("of nothing", 1, new Shelf().build());
+            Shelf x = new Shelf();
+            Prepared.seven(x);
+            S.due("of seven", 3, x.build());
+            S.due("once more", 3, x.build());
+            S.due("BLOCKS", 3, x.count(1));
+        });
         S.of(10, "without ENTRIES, and with four at most, the ROOT is a LEAF", () -> {
             int[] few = {0, 1, 3, 4, 5};
             for (int many : few) {
@@ -562,6 +583,11 @@ public final class ActSentences {
             x.acts("cut d;cut e;cut f;cut g");
             S.due("none", 1, x.build());
             slots(x, 0);
+            Shelf y = new Shelf();
+            y.acts("put a 1;put b 2;put c 3;put d 4;put e 5");
+            S.due("five of one LEAF", 3, y.build());
+            slots(y, 0);
+            S.due("ENTRIES", 5, y.count(0));
         });
         S.of(10, "LEAVES of four (of the last one what is left), in order", () -> {
             int[] some = {7, 8, 9, 12, 13};
@@ -575,6 +601,29 @@ public final class ActSentences {
             for (int many : more) {
                 builtOf(many);
             }
+        });
+        S.of(10, "if these are more than five", () -> {
+            Shelf x = new Shelf();
+            Prepared.oneHash(x, 0, 30);
+            S.due("five LEAVES that are full", 5, x.count(3));
+            S.due("LEVELS", 1, x.count(2));
+            S.due("build", 11, x.build());
+            S.due("LEVELS", 2, x.count(2));
+            S.due("eight LEAVES", 8, x.count(3));
+            S.due("two INDEXES", 2, x.block(0, 1));
+            S.due("one is FOUND", 29, x.find(Names.twoLetters(0, 1).get(29), 0));
+        });
+        S.of(10, "of the last one what is left", () -> {
+            Shelf x = new Shelf();
+            Prepared.rising(x, 15);
+            S.due("fifteen", 5, x.build());
+            S.due("cut", 1, x.acts("cut " + Prepared.nameOf(14)));
+            S.due("fourteen", 5, x.build());
+            slots(x, 4, 12, 13);
+            S.due("cut", 1, x.acts("cut " + Prepared.nameOf(13)));
+            S.due("thirteen", 5, x.build());
+            slots(x, 4, 12);
+            S.due("ENTRIES", 13, x.count(0));
         });
         S.of(10, "An INDEX has 1 to 5 ROWS (numbered from 0 on)", () -> {
             Shelf x = new Shelf();
@@ -782,6 +831,14 @@ public final class ActSentences {
             S.callLeavesRest("fold of A and a", Prepared::lived, x -> x.tune(2, 1), Shelf.ISE, 1);
             S.callLeavesRest("fold of longer ones", x -> x.acts("put abCdefgh 1;put zz 2;put abcdefGh 3"),
                 x -> x.tune(2, 1), Shelf.ISE, 1);
+            Shelf y = new Shelf();
+            y.acts("put a 1;put A 2");
+            S.due("fold of two", Shelf.ISE, y.tune(2, 1));
+            S.due("cut", 2, y.cut("A"));
+            S.due("fold of the one that is left", 0, y.tune(2, 1));
+            Shelf z = new Shelf();
+            z.acts("put abcdefgh 1;build");
+            S.due("fold of one alone", 0, z.tune(2, 1));
             Shelf x = new Shelf();
             x.acts("put ab 1;put Abc 2;put B 3;put bb 4");
             S.due("fold of such that are not", 0, x.tune(2, 1));
@@ -945,6 +1002,9 @@ public final class ActSentences {
         takenBack("BITS", Prepared::torn, x -> x.tune(0, 3));
         takenBack("KEY", Prepared::lived, x -> x.tune(1, 3));
         takenBack("FOLD", Prepared::seven, x -> x.tune(2, 1));
+        takenBack("BITS of two levels", Prepared::marked, x -> x.tune(0, 12));
+        takenBack("KEY of two levels", x -> Prepared.rising(x, 28), x -> x.tune(1, 77));
+        takenBack("build of two levels", x -> Prepared.rising(x, 28), x -> x.build());
         takenBack("tear", Prepared::lived, x -> x.tear(0));
         takenBack("tear of one that is TORN", Prepared::torn, x -> x.tear(0));
         takenBack("cut of a full one", Prepared::livedFull, x -> x.cut(Prepared.nameOf(149)));

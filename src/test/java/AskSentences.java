@@ -1,8 +1,9 @@
+import java.util.ArrayList;
 import java.util.List;
 
 /** What the document says at its edges of find, way, block, entry, letter, row, leaf, shape, crowds and best. */
 public final class AskSentences {
-    private static final Sentences S = new Sentences(14, 23);
+    private static final Sentences S = Sentences.from(14, 23);
     private static final int SAME = Sentences.SAME;
     private static final int LOWEST = Integer.MIN_VALUE;
     private static final int HIGHEST = Integer.MAX_VALUE;
@@ -58,6 +59,7 @@ public final class AskSentences {
         S.of(14, "a NAME, what 0: its NODE (NONE, if it is not FOUND), 1 READ, 2 the BLOCK, 3 the SLOT where it lies (NONE),"
             + " 4 its HASH, 5 MEETS, 6 ROOM, 7 NEEDS (NONE), 8 MATE (NONE)", () -> {
             found(new Shelf(), "a", -1, 1, -1, -1, 1, 0, 6, 0);
+            found(after(Prepared::six), "a", 1, 1, 0, 0, 1, 1, 0, -1);
             found(after(Prepared::six), "f", 6, 1, 0, 5, 4, 1, 0, -1);
             found(after(Prepared::six), "g", -1, 1, -1, -1, 7, 0, 0, 2);
             found(after(Prepared::seven), "b", 2, 2, 2, 0, 0, 1, 3, -1);
@@ -223,6 +225,19 @@ public final class AskSentences {
             S.due("the only one is FOUND", -1, x.find("zz", 8));
             S.due("another one is not", 1, x.find("ab", 8));
         });
+        S.of(14, "the first of two-letter NAMES aa, ab, .. az, ba, .. zz", () -> {
+            Shelf x = told("bits 12");
+            Shelf y = told("bits 12");
+            for (char sign = '`'; sign <= '{'; sign++) {
+                // What stands beside a and z is no letter, though it has a HASH, too.
+                int behind = Names.hash("" + sign + '{', 1, 12, false);
+                S.due("MATE of HASH " + behind, mate(behind, 12, 0), x.find(Prepared.otherName(behind), 8));
+                int ahead = Names.hash("" + sign + '`', 1, 12, false);
+                S.due("MATE of HASH " + ahead, mate(ahead, 12, 0), x.find(Prepared.otherName(ahead), 8));
+                int above = Names.hash("{" + sign, 1, 12, false);
+                S.due("MATE of HASH " + above, mate(above, 12, 0), y.find(Prepared.otherName(above), 8));
+            }
+        });
         S.of(14, "with its HASH that is not FOUND", () -> {
             Shelf x = told("bits 1");
             for (int k = 0; k < 10; k++) {
@@ -291,6 +306,18 @@ public final class AskSentences {
             ways(y, "a", 0, 7, 1);
             y.tear(0);
             ways(y, "b", 0, 8, 2, 11, 10, 9, 6, 5, 4, 3, 1);
+        });
+        S.of(15, "as long as LIMIT of the ROW to it is the HASH and has a MARK", () -> {
+            Shelf x = after(y -> Prepared.oneHash(y, 0, 13));
+            ways(x, "b", 0, 2, 3, 1);
+            x.acts("cut " + ZEROS.get(0) + ";cut " + ZEROS.get(1) + ";cut " + ZEROS.get(2) + ";cut " + ZEROS.get(3) + ";cut "
+                + ZEROS.get(4) + ";build");
+            ways(x, "b", 0, 1, 2);
+            ways(x, "a", 0, 2);
+            S.due("READ", 3, x.find("b", 1));
+            S.due("ROOM", 4, x.find("b", 6));
+            S.due("CHAIN", 2, x.shape(1));
+            S.due("ENTRIES behind", 4, x.shape(6));
         });
         S.of(15, "(LEVELS 0: the ROOT alone.)", () -> {
             ways(new Shelf(), "zzzzzzzz", 0);
@@ -452,6 +479,8 @@ public final class AskSentences {
             S.due("LIMIT of the first", 0, x.row(0, 0, 0));
             S.due("MARK of the first", 0, x.row(0, 0, 1));
         });
+        S.of(19, "else an INDEX (LEVELS 1: its ROWS lead to LEAVES; LEVELS 2: to INDEXES, and ROWS of these to LEAVES)",
+            AskSentences::rootAsIndex);
         S.of(19, "LIMIT of the first ROW of all is 0 without MARK; of each other INDEX the first ROW has LIMIT and MARK of the"
             + " ROW that leads to it.", () -> {
             Shelf x = after(Prepared::full);
@@ -472,6 +501,23 @@ public final class AskSentences {
             S.due("LIMIT of the first below", 0, y.row(8, 0, 0));
             S.due("MARK of the first below", 0, y.row(8, 0, 1));
         });
+    }
+
+    private static void rootAsIndex() {
+        Shelf x = after(Prepared::seven);
+        S.due("LEVELS 1", 1, x.count(2));
+        S.due("a LEAF", 1, x.block(x.row(0, 0, 2), 0));
+        S.due("a LEAF", 1, x.block(x.row(0, 1, 2), 0));
+        Shelf y = after(Prepared::full);
+        S.due("LEVELS 2", 2, y.count(2));
+        for (int row = 0; row < 5; row++) {
+            int index = y.row(0, row, 2);
+            S.due("an INDEX", 2, y.block(index, 0));
+            for (int below = 0; below < 5; below++) {
+                S.due("a LEAF", 1, y.block(y.row(index, below, 2), 0));
+                S.due("in order", y.leaf(5 * row + below), y.row(index, below, 2));
+            }
+        }
     }
 
     private static void leaf() {
@@ -520,6 +566,7 @@ public final class AskSentences {
             + " BLOCK of the INDEX that has the most ROWS, of several the least (7; NONE), the least HASH (0 to 2 to the"
             + " BITS, less 1) that no ENTRY has (8; NONE)", () -> {
             shapes("empty", new Shelf(), 0, 0, 1, 0, 0, 0, 0, -1, 0);
+            shapes("one", told("put a 1"), 1, 1, 1, 1, 1, 0, 0, -1, 0);
             shapes("six", after(Prepared::six), 1, 1, 2, 6, 6, 0, 0, -1, 6);
             shapes("seven", after(Prepared::seven), 1, 1, 2, 3, 4, 1, 0, 0, 6);
             shapes("full", after(Prepared::full), 1, 1, 38, 6, 6, 0, 0, 0, 1);
@@ -673,6 +720,22 @@ public final class AskSentences {
             }
             S.due("KEY stays", 1, y.count(6));
             S.due("the first of several", 9, new Shelf().best(9, 20));
+        });
+        S.of(23, "(65535 at most)", () -> {
+            List<String> names = new ArrayList<>();
+            for (String name : ZEROS) {
+                if (Names.hash(name, 65535, 4, false) == 0 && names.size() < 6) {
+                    names.add(name);
+                }
+            }
+            Shelf x = told("bits 4");
+            S.due("all meet by KEY 65535", 6, x.actsOf(Prepared.puts(names)));
+            S.due("CROWDS of 65535", 6, x.crowds(65535));
+            S.yes("fewer meet by KEY 0", x.crowds(0) < 6);
+            for (int n = 1; n <= 20; n++) {
+                S.due("best 65535 " + n, 65535, x.best(65535, n));
+                S.due("best 65534 " + n, 65534, x.best(65534, n));
+            }
         });
     }
 

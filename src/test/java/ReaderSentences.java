@@ -4,7 +4,7 @@ import java.util.List;
 
 /** What the document says at its edges of READERS, of THE IMAGE and of count. */
 public final class ReaderSentences {
-    private static final Sentences S = new Sentences(24, 30);
+    private static final Sentences S = Sentences.from(24, 30);
     private static final int LOWEST = Integer.MIN_VALUE;
     private static final int HIGHEST = Integer.MAX_VALUE;
     private static final int[] NO_READERS = {-1, 4, LOWEST, HIGHEST};
@@ -337,6 +337,39 @@ public final class ReaderSentences {
         });
     }
 
+    /** There and back between two directories that have INDEXES in the same BLOCKS, with other ROWS. */
+    private static void backOfTwoLevels() {
+        Whole.Run marked = Prepared::marked;
+        S.same("MARKS", Whole.directory(marked), Whole.directory(x -> {
+            marked.on(x);
+            x.image();
+            S.due("BITS", 1, x.tune(0, 12));
+            S.due("back", 1, x.back());
+        }));
+        Whole.Run built = Sentences.then(marked, x -> x.tune(0, 12));
+        S.same("no MARKS", Whole.directory(built), Whole.directory(x -> {
+            built.on(x);
+            x.image();
+            S.due("undo", 0, x.undo());
+            S.due("back", 1, x.back());
+        }));
+        S.same("a wrong text", Whole.directory(marked), Whole.directory(x -> {
+            marked.on(x);
+            S.due("the text", Shelf.IAE, x.acts("bits 12;key 3;build;cut nosuch"));
+        }));
+        S.same("a full one", Whole.directory(Prepared::full), Whole.directory(x -> {
+            Prepared.full(x);
+            x.image();
+            List<String> cuts = new ArrayList<>();
+            for (int k = 70; k < Prepared.FULL; k++) {
+                cuts.add("cut " + Prepared.nameOf(k));
+            }
+            S.due("cuts", 80, x.actsOf(cuts));
+            S.due("KEY", 1, x.acts("key 9"));
+            S.due("back", 1, x.back());
+        }));
+    }
+
     private static int keep(Shelf x) {
         x.image();
         return 0;
@@ -379,6 +412,7 @@ public final class ReaderSentences {
             S.due("an empty one", 0, y.count(0));
             S.due("BITS", 6, y.count(5));
         });
+        S.of(29, "One goes back to THE IMAGE", ReaderSentences::backOfTwoLevels);
         S.of(29, "A text, going back: none are remembered.", () -> {
             Shelf x = after(Prepared::lived);
             S.due("remembered", 4, x.count(8));

@@ -4,7 +4,7 @@ import java.util.List;
 
 /** What the document says at its edges of a new object, of the TAPE, of texts of ACTS, of fault() and of WHY. */
 public final class TapeSentences {
-    private static final Sentences S = new Sentences(1, 6);
+    private static final Sentences S = Sentences.from(1, 6);
     private static final int BLANK = 32;
 
     private TapeSentences() {
@@ -179,6 +179,7 @@ public final class TapeSentences {
             S.due("a long word", Shelf.IAE, x.cut());
             S.due("from its begin", 0, x.fault());
         });
+        S.of(3, "its first n bytes alone", TapeSentences::endOfTexts);
         S.of(3, "false, and nothing happens, if it has fewer, or n is below 0", () -> {
             int[] wrong = {5, 21, Integer.MAX_VALUE, -1, Integer.MIN_VALUE};
             for (int n : wrong) {
@@ -191,6 +192,45 @@ public final class TapeSentences {
             S.due("401 of 400", 0, x.end(401));
             S.due("400 of 400", 1, x.end(400));
         });
+    }
+
+    /** What is cut off does not go on with what is left, though it may be a blank, a letter or a digit. */
+    private static void endOfTexts() {
+        Shelf x = new Shelf();
+        x.tape("put a 12");
+        x.end(7);
+        S.due("a digit", 1, x.acts());
+        S.due("its NODE", 1, x.entry(0, 0, 0));
+        x.tape("abcdefghi");
+        x.end(8);
+        S.due("a letter", 0, x.put(2));
+        S.due("its letters", 8, x.entry(0, 1, 2));
+        x.tape("build;build");
+        x.end(5);
+        S.due("an ACT", 1, x.acts());
+        String[] texts = {"put    a 1", "build;    build", "put a     1"};
+        int[] ends = {3, 4, 6, 6, 7, 9, 5, 6, 9};
+        for (int k = 0; k < ends.length; k++) {
+            x.tape(texts[k / 3]);
+            x.end(ends[k]);
+            S.due("'" + texts[k / 3] + "' up to " + ends[k], Shelf.IAE, x.acts());
+            S.due("more must come", ends[k], x.fault());
+        }
+        for (int n = 1; n < 4; n++) {
+            x.tape("a    b");
+            x.end(n);
+            S.due("a blank", Shelf.IAE, x.turn());
+            S.due("more must come", n, x.fault());
+        }
+        x.tape("a    b");
+        x.end(5);
+        S.due("what was cut off does not come back", 25, x.feedTwenty(BLANK));
+        S.due("all blanks but one letter", 1, x.cut());
+        x.tape(blanks(380) + "put a 1;put b 2;cut?");
+        S.due("a long text", Shelf.IAE, x.acts());
+        x.tape("put");
+        S.due("a short one behind a long one", Shelf.IAE, x.acts());
+        S.due("more must come", 3, x.fault());
     }
 
     private static void acts() {

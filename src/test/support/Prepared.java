@@ -66,6 +66,13 @@ final class Prepared {
         x.actsOf(puts(Names.twoLetters(hash, 1).subList(0, many)));
     }
 
+    /** LEVELS 2 with MARKS; BUILT anew, its ENTRIES need an INDEX in a BLOCK that is one here, too. */
+    static void marked(Shelf x) {
+        oneHash(x, 0, 31);
+        List<String> names = Names.twoLetters(0, 1);
+        x.acts("cut " + names.get(0) + ";cut " + names.get(1) + ";cut " + names.get(2));
+    }
+
     /** So many ENTRIES of HASHES 0, 27, 54, .. by BITS 12, put in this order. */
     static void rising(Shelf x, int many) {
         x.acts("bits 12");

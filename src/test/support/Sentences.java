@@ -3,6 +3,7 @@ import java.nio.file.Files;
 import java.nio.file.Path;
 import java.util.ArrayList;
 import java.util.List;
+import java.util.stream.IntStream;
 
 /** Tests that are told by a promise's number and by the document's words for it. */
 final class Sentences {
@@ -11,8 +12,7 @@ final class Sentences {
     static final int SAME = Integer.MIN_VALUE;
     private static final int MOST_SAID = 5;
 
-    private final int firstPromise;
-    private final int lastPromise;
+    private final int[] promises;
     private final String document;
     private final int[] perPromise = new int[31];
     private String told = "";
@@ -21,10 +21,14 @@ final class Sentences {
     private int checks = 0;
     private int wrong = 0;
 
-    Sentences(int firstPromise, int lastPromise) {
-        this.firstPromise = firstPromise;
-        this.lastPromise = lastPromise;
+    /** For these promises; each must have a sentence in the end. */
+    Sentences(int... promises) {
+        this.promises = promises;
         document = read();
+    }
+
+    static Sentences from(int first, int last) {
+        return new Sentences(IntStream.rangeClosed(first, last).toArray());
     }
 
     private static String read() {
@@ -131,7 +135,7 @@ final class Sentences {
     /** Says what was not as due, and ends the test. */
     void end() {
         List<Integer> without = new ArrayList<>();
-        for (int promise = firstPromise; promise <= lastPromise; promise++) {
+        for (int promise : promises) {
             if (perPromise[promise] == 0) {
                 without.add(promise);
             }
@@ -140,7 +144,7 @@ final class Sentences {
             wrong++;
             System.out.println("promises without a sentence: " + without);
         }
-        System.out.println("promises " + firstPromise + " to " + lastPromise + ": " + sentences + " sentences, "
+        System.out.println(promises.length + " promises from " + promises[0] + " on: " + sentences + " sentences, "
             + checks + " answers, " + wrong + " not as due");
         if (wrong != 0) {
             System.exit(1);
