@@ -1,0 +1,112 @@
+import java.io.IOException;
+import java.lang.reflect.Constructor;
+import java.lang.reflect.Executable;
+import java.lang.reflect.Field;
+import java.lang.reflect.Method;
+import java.lang.reflect.Modifier;
+import java.nio.file.Files;
+import java.nio.file.Path;
+import java.util.ArrayList;
+import java.util.List;
+import java.util.TreeSet;
+
+/** The class has the face that the document writes out, and no other; run from the project's directory. */
+public final class PublicFace {
+    private static final Path DOCUMENT = Path.of("../shared/DOC.md");
+    private static final Path SOURCE = Path.of("src/main/java/SteadyShelf.java");
+    private static int wrong = 0;
+
+    private static void due(boolean holds, String what) {
+        if (!holds) {
+            wrong++;
+            System.out.println(what);
+        }
+    }
+
+    /** The lines between the class's first line and its last one. */
+    private static List<String> documentsFace() throws IOException {
+        List<String> face = new ArrayList<>();
+        boolean inside = false;
+        for (String line : Files.readAllLines(DOCUMENT)) {
+            if (line.equals("public final class SteadyShelf {")) {
+                inside = true;
+            } else if (inside && line.equals("}")) {
+                return face;
+            } else if (inside) {
+                face.add(line.trim());
+            }
+        }
+        return face;
+    }
+
+    private static String types(Class<?>[] classes) {
+        List<String> names = new ArrayList<>();
+        for (Class<?> c : classes) {
+            names.add(c.getSimpleName());
+        }
+        return String.join(", ", names);
+    }
+
+    private static String told(Executable e, String answerAndName) {
+        String thrown = types(e.getExceptionTypes());
+        return "public " + answerAndName + "(" + types(e.getParameterTypes()) + ")"
+            + (thrown.isEmpty() ? "" : " throws " + thrown) + ";";
+    }
+
+    /** As the class itself tells it: parameters without their names. */
+    private static TreeSet<String> classesFace() throws IllegalAccessException {
+        TreeSet<String> face = new TreeSet<>();
+        for (Method m : SteadyShelf.class.getDeclaredMethods()) {
+            if (!Modifier.isPrivate(m.getModifiers()) && !m.isSynthetic()) {
+                due(!Modifier.isStatic(m.getModifiers()), m + " is static");
+                face.add(told(m, m.getReturnType().getSimpleName() + " " + m.getName()));
+            }
+        }
+        for (Constructor<?> c : SteadyShelf.class.getDeclaredConstructors()) {
+            face.add(told(c, "SteadyShelf"));
+        }
+        for (Field f : SteadyShelf.class.getDeclaredFields()) {
+            if (!Modifier.isPrivate(f.getModifiers())) {
+                face.add(Modifier.toString(f.getModifiers()) + " " + f.getType().getSimpleName() + " " + f.getName() + " = "
+                    + (isNumber(f) ? String.valueOf(f.getInt(null)) : "?") + ";");
+            }
+        }
+        return face;
+    }
+
+    private static boolean isNumber(Field f) {
+        return Modifier.isPublic(f.getModifiers()) && Modifier.isStatic(f.getModifiers()) && f.getType() == int.class;
+    }
+
+    private static String withoutParameterNames(String line) {
+        int begin = line.indexOf('(');
+        int end = line.indexOf(')');
+        return begin < 0 ? line
+            : line.substring(0, begin) + line.substring(begin, end).replaceAll(" \\w+(?=,|$)", "") + line.substring(end);
+    }
+
+    public static void main(String[] args) throws IOException, IllegalAccessException {
+        List<String> face = documentsFace();
+        due(face.size() == 31, "the document's face has " + face.size() + " lines, not 31");
+        String source = Files.readString(SOURCE);
+        TreeSet<String> want = new TreeSet<>();
+        for (String line : face) {
+            want.add(withoutParameterNames(line));
+            String inSource = "    " + (line.endsWith(");") || line.contains(" throws ") ? line.replace(";", " {") : line) + "\n";
+            due(source.contains("\n" + inSource), "not in the source as the document has it: " + line);
+        }
+        TreeSet<String> got = classesFace();
+        for (String line : want) {
+            due(got.contains(line), "the class does not have " + line);
+        }
+        for (String line : got) {
+            due(want.contains(line), "the document does not have " + line);
+        }
+        int modifiers = SteadyShelf.class.getModifiers();
+        due(modifiers == (Modifier.PUBLIC | Modifier.FINAL), "the class is " + Modifier.toString(modifiers));
+        System.out.println(face.size() + " lines of the document's face, " + wrong + " faults");
+        if (wrong != 0) {
+            System.exit(1);
+        }
+    }
+}
