@@ -14,6 +14,40 @@ import java.util.TreeSet;
 public final class PublicFace {
     private static final Path DOCUMENT = Path.of("../shared/DOC.md");
     private static final Path SOURCE = Path.of("src/main/java/SteadyShelf.java");
+    /** The document's face once more, so that it is compared with the class wherever the test runs. */
+    private static final String FACE = """
+        public static final int NONE = -1;
+        public SteadyShelf();
+        public int feed(int a, int b, int c, int d, int e);
+        public boolean end(int n);
+        public int acts() throws IllegalArgumentException;
+        public int fault();
+        public int why();
+        public int put(int node) throws IllegalArgumentException, IllegalStateException;
+        public int cut() throws IllegalArgumentException, IllegalStateException;
+        public int turn() throws IllegalArgumentException, IllegalStateException;
+        public int build() throws IllegalStateException;
+        public int tune(int what, int n) throws NoSuchElementException, IllegalArgumentException, IllegalStateException;
+        public int tear(int block) throws IndexOutOfBoundsException, IllegalStateException;
+        public int undo() throws IllegalStateException;
+        public int find(int what) throws NoSuchElementException, IllegalArgumentException;
+        public int way(int k) throws IllegalArgumentException;
+        public int block(int block, int what) throws IndexOutOfBoundsException, NoSuchElementException;
+        public int entry(int block, int slot, int what) throws IndexOutOfBoundsException, NoSuchElementException;
+        public int letter(int block, int slot, int k) throws IndexOutOfBoundsException;
+        public int row(int block, int row, int what) throws IndexOutOfBoundsException, NoSuchElementException;
+        public int leaf(int k);
+        public int shape(int what) throws NoSuchElementException;
+        public int crowds(int key) throws IllegalArgumentException;
+        public int best(int key, int n) throws IllegalArgumentException;
+        public boolean open(int reader, boolean is) throws IndexOutOfBoundsException;
+        public int next(int reader) throws IndexOutOfBoundsException, IllegalStateException;
+        public int reader(int reader, int what) throws IndexOutOfBoundsException, NoSuchElementException;
+        public int batch(int reader, int k) throws IndexOutOfBoundsException;
+        public void image();
+        public boolean back();
+        public int count(int what);
+        """;
     private static int wrong = 0;
 
     private static void due(boolean holds, String what) {
@@ -86,8 +120,11 @@ public final class PublicFace {
     }
 
     public static void main(String[] args) throws IOException, IllegalAccessException {
-        List<String> face = documentsFace();
-        due(face.size() == 31, "the document's face has " + face.size() + " lines, not 31");
+        List<String> face = List.of(FACE.split("\n"));
+        if (Files.isReadable(DOCUMENT)) {
+            List<String> told = documentsFace();
+            due(told.equals(face), "the document's face is not the one here: " + told);
+        }
         String source = Files.readString(SOURCE);
         TreeSet<String> want = new TreeSet<>();
         for (String line : face) {
@@ -104,7 +141,7 @@ public final class PublicFace {
         }
         int modifiers = SteadyShelf.class.getModifiers();
         due(modifiers == (Modifier.PUBLIC | Modifier.FINAL), "the class is " + Modifier.toString(modifiers));
-        System.out.println(face.size() + " lines of the document's face, " + wrong + " faults");
+        System.out.println(face.size() + " lines of the face, " + wrong + " faults");
         if (wrong != 0) {
             System.exit(1);
         }
